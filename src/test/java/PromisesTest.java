@@ -305,6 +305,7 @@ public final class PromisesTest {
     }
 
     private static void exponent() {
+        due("exponent(), the fewest points", on(5, 2, 0, 2).exponent(), 2);
         due("exponent()", new CurveGroups().exponent(), 9);
         due("exponent()", twelve().exponent(), 6);
         due("exponent()", on(13, 12, 0, 8).exponent(), 4);
@@ -313,6 +314,7 @@ public final class PromisesTest {
     }
 
     private static void width() {
+        due("width(), the fewest points", on(5, 2, 0, 2).width(), 1);
         due("width()", new CurveGroups().width(), 1);
         due("width()", twelve().width(), 2);
         due("width()", on(13, 12, 0, 8).width(), 2);
@@ -321,6 +323,7 @@ public final class PromisesTest {
     }
 
     private static void generator() {
+        due("generator(), the fewest points", on(5, 2, 0, 2).generator(), 1);
         due("generator()", new CurveGroups().generator(), 1);
         due("generator()", twelve().generator(), 3);
         due("generator()", on(13, 12, 0, 8).generator(), 3);
@@ -413,6 +416,10 @@ public final class PromisesTest {
             due("changes(12, " + v + ")", g.changes(12, v), BAD);
             due("changes(" + v + ", " + v + ")", g.changes(v, v), BAD);
         }
+        g = on(11, 3, 7, 10);
+        due("changes(4, 8), by 2 and 9", g.changes(4, 8), 2);
+        due("changes(1, 10), by 3 and 8", g.changes(1, 10), 2);
+        due("changes(4, 10)", g.changes(4, 10), 0);
         // The greatest a and b, whose products with u are the greatest too.
         due("changes(60, 60)", on(61, 60, 60, 64).changes(60, 60), 2);
     }
