@@ -111,6 +111,10 @@ public final class TermsTest {
             new Call("changes(1, 4)", g -> g.changes(1, 4), 2));
         for (Call call : last) {
             due("the 512th call " + call.text, call.call.applyAsInt(after511Calls()), call.due);
+            CurveGroups g = new CurveGroups();
+            for (int k = 1; k <= 512; k++) {
+                due(call.text + ", " + k + " times the same", call.call.applyAsInt(g), call.due);
+            }
         }
     }
 
